@@ -296,7 +296,12 @@ public final class PromiseTest {
         worth("5+(2>1)", 6);
         worth("5+(2=2)", 6);
         worth("5+(1+1=2*1)", 6);
+        worth("5+(2=3)", 5);
+        worth("5+(2<2)", 5);
+        worth("5+(2>2)", 5);
         worth("5+(7 and 9)", 6);
+        worth("5+(1 and 1)", 6);
+        worth("5+(0 and 1)", 5);
         worth("5+(7 and 0)", 5);
         worth("5+(0 or 9)", 6);
         worth("5+(0 or 0)", 5);
@@ -488,6 +493,17 @@ public final class PromiseTest {
         x = with(GEYSER, "", 10);
         Due.same("the third", x.play(0, 9, 2, 0), 9);
         Due.same("its wait", x.play(0, 9, 2, 3), 2);
+        Due.same("the second one's wait", x.play(0, 9, 1, 3), 2);
+        // It throws 6, 10, 10, 6, 10, 10, 6, 10, 10, 8.
+        x = with(JET.replace("hot 999", "hot 700"), "", 0);
+        Due.same("all high", x.play(0, 10, 0, 1), 10);
+        Due.same("greatest", x.play(0, 10, 0, 2), 10);
+        x.high(10);
+        Due.same("three of two seconds", x.plays(0, 10), 3);
+        Due.same("first second", x.play(0, 10, 1, 0), 5);
+        Due.same("length", x.play(0, 10, 1, 1), 2);
+        Due.same("behind the last second of the one ahead", x.play(0, 10, 1, 3), 1);
+        Due.same("just begun", x.play(0, 5, 1, 1), 1);
         // Every second second: b's one grain boils away at each other one.
         x = with(CLOCK.replace("hot 100", "hot 200").replace("cold 2", "cold 5"), CLOCK_LAWS, 0);
         Due.same("each other second", x.play(0, 1000, 199, 0), 400);
@@ -530,6 +546,7 @@ public final class PromiseTest {
         }
         Due.same("a 61st", x.sight(1, 1), -1);
         Due.same("sixty", x.about(9), 60);
+        Due.no("no 61st to untell", x.untell(60));
         for (int i = 0; i < 99; i++) {
             x.later(1000);
         }
@@ -573,12 +590,27 @@ public final class PromiseTest {
         Due.same("two", y.board(4, 100, 2, 0), 0);
         Due.same("three", y.board(4, 100, 3, 0), 0);
         Due.same("four", y.board(4, 100, 4, 0), 500);
+        SpoutSpring w = new SpoutSpring();
+        for (int i = 1; i <= 4; i++) {
+            w.sight(95 + i, 100 * i);
+        }
+        Due.same("the last four lengths", w.span(4, 100, 0), 0);
+        for (int i = 1; i <= 4; i++) {
+            Due.same("length " + (95 + i), w.board(4, 100, 95 + i, 0), 100 * i);
+        }
+        Due.same("three rows for four", w.span(3, 100, 0), 50);
+        Due.same("rows begin at 2 and 98", w.board(3, 100, 97, 0), 150);
+        Due.same("the first row hits none", w.board(3, 100, 1, 0), 0);
         SpoutSpring z = new SpoutSpring();
+        Due.same("nothing yet", z.span(1, 100, 0), 0);
+        Due.same("nothing yet", z.board(1, 100, 9, 0), -1);
         z.sight(99, 3);
+        Due.same("one there", z.board(1, 100, 9, 0), 3);
         z.sight(1, 7);
         Due.same("no time below 0", z.board(1, 100, 9, 0), 5);
         Due.same("its span", z.span(1, 100, 0), 2);
         z.untell(0);
+        Due.same("one untold", z.span(1, 100, 0), 0);
         z.sight(1, 0);
         z.sight(1, 1);
         z.sight(2, 9);
@@ -681,6 +713,56 @@ public final class PromiseTest {
         Due.same("less wide", x.shook(0, 1), 4);
         Due.laws(x, "boil 350; lift 4;");
         Due.same("other laws: it does not play anyway", x.shook(0, 1), -1);
+        Due.laws(x, "boil 340; lift 30;");
+        Due.same("it plays in second 4 again", x.shook(0, 1), 4);
+        x.cold(99);
+        Due.same("it plays in second 3", x.shook(0, 1), -1);
+        x.cold(0);
+        Due.same("cold again", x.shook(0, 1), 4);
+        Due.spring(x, 0, CLOCK.replace("wide 10", "wide 9"));
+        Due.same("another spring", x.shook(0, 2), 1);
+        Due.spring(x, 0, POND);
+        Due.same("a spring without rooms above", x.shook(0, 2), -1);
+        // Thrown 1 a second by wide 1: high 1 is out of reach by wide 0 alone.
+        x = with(CLOCK, CLOCK_LAWS, 0);
+        x.high(1);
+        x.log(4, 4, false);
+        Due.same("wide 0", x.shook(0, 1), 0);
+        x = with("neck t depth 0 holds 99 wide 3 hot 0 cold 30 up air; room b depth 9 holds 1 wide 0 hot 100 cold 1 up t;",
+            CLOCK_LAWS, 0);
+        x.high(30);
+        x.log(4, 4, true);
+        Due.same("wide 30", x.shook(0, 1), 30);
+        // By wide 4 it never throws 5; by 8 it plays in other seconds; by 5 and 7 as by its own.
+        String tie = "room t depth 0 holds 12 wide 6 hot 0 cold 2 up air; room b depth 9 holds 8 wide 0 hot 200 cold 2 up t;";
+        for (int wide = 4; wide <= 8; wide++) {
+            x = with(tie.replace("wide 6", "wide " + wide), "", 10);
+            x.log(11, 11, false);
+            Due.same("wide " + wide + " fits", x.fits() & 1, wide == 4 || wide == 8 ? 1 : 0);
+        }
+        x = with(tie, "", 10);
+        x.log(11, 11, false);
+        Due.same("of two as near the lesser", x.shook(0, 1), 4);
+        x.clear();
+        Due.same("no logs any more", x.shook(0, 1), -1);
+        x = with(CLOCK.replace("wide 10", "wide 5"), CLOCK_LAWS, 0);
+        x.log(4, 4, false);
+        Due.same("just less wide", x.shook(0, 1), 4);
+        x.high(6);
+        x.clear();
+        x.log(4, 4, true);
+        Due.same("just wider", x.shook(0, 1), 6);
+        x = with("neck t depth 0 holds 99 wide 0 hot 0 cold 30 up air; room b depth 9 holds 1 wide 0 hot 100 cold 1 up t;",
+            CLOCK_LAWS, 0);
+        x.high(30);
+        x.log(4, 4, true);
+        Due.same("from 0 to 30", x.shook(0, 1), 30);
+        Due.spring(x, 0, "neck t depth 0 holds 99 wide 30 hot 0 cold 30 up air;"
+            + "room b depth 9 holds 1 wide 0 hot 100 cold 1 up t;");
+        x.high(1);
+        x.clear();
+        x.log(4, 4, false);
+        Due.same("from 30 to 0", x.shook(0, 1), 0);
         // Both rooms above hold back; of like ones the first.
         x = with("room t depth 0 holds 10 wide 10 hot 0 cold 0 up air; room m depth 1 holds 10 wide 10 hot 0 cold 2 up t;"
             + "room b depth 9 holds 1 wide 0 hot 100 cold 1 up m;", CLOCK_LAWS, 0);
@@ -724,6 +806,9 @@ public final class PromiseTest {
         Due.same("a play that goes on does not begin", x.years(0, 5), 2);
         x = with(GEYSER, "", 10);
         Due.same("no play in the first two seconds", x.years(0, 2), 1);
+        Due.same("one second", x.years(0, 1), 1);
+        Due.same("three seconds: one play a year", x.years(0, 3), 6);
+        Due.same("a hundred", x.years(0, 100), 6);
         Due.same("the course goes on", x.years(0, 4), 6);
     }
 
@@ -738,6 +823,9 @@ public final class PromiseTest {
         x.high(9);
         Due.same("too high", x.led(0, 0, 1, 4), -1);
         x.high(5);
+        Due.same("99 plays", x.led(0, 0, 99, 396), 1);
+        Due.same("a second less", x.led(0, 0, 99, 395), -1);
+        Due.same("nothing is led away for others", x.stolen(0, 8) + x.parts(0, 1, 99, 8), -1);
         Due.same("no plays", x.led(0, 0, 0, 4), -1);
         Due.same("100 plays", x.led(0, 0, 100, 1000), -1);
         Due.same("room 2", x.led(0, 2, 1, 4), -1);
@@ -777,6 +865,15 @@ public final class PromiseTest {
         Due.same("one second sooner", x.parts(0, 1, 100, 8), 1);
         Due.same("not enough", x.parts(0, 1, 99, 8), -1);
         Due.same("a play more", x.parts(0, 1, 100, 3), 1);
+        Due.same("the most warmth", x.parts(0, 1, 999, 8), 1);
+        Due.same("the least warmth", x.parts(0, 1, 1, 8), -1);
+        Due.laws(x, "boil 351; lift 30;");
+        Due.same("the least warmth is enough", x.parts(0, 1, 1, 8), 1);
+        Due.laws(x, CLOCK_LAWS);
+        Due.same("one second", x.parts(0, 1, 999, 1), -1);
+        Due.spring(x, 1, CLOCK.replace("hot 100", "hot 135"));
+        Due.same("a shelf that plays in second 3", x.play(1, 3, 0, 0), 3);
+        Due.same("alike but in number", x.parts(0, 1, 100, 3), 1);
         Due.same("neither plays yet", x.parts(0, 1, 100, 2), -1);
         Due.same("no warmth", x.parts(0, 1, 0, 8), -1);
         Due.same("1000 of warmth", x.parts(0, 1, 1000, 8), -1);
