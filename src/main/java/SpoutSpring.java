@@ -544,7 +544,7 @@ public final class SpoutSpring {
         for (int room = 0; room < rooms; room++) {
             int own = courses[shelf].spring.wide[room];
             int free = MOST_WIDE + 1;
-            // 1, -1, 2, -2 ..: the nearest to its own first, of two as near the lesser.
+            // Its own less 1, plus 1, less 2, plus 2 ..: the nearest first, of two as near the lesser.
             for (int step = 2; step <= 2 * MOST_WIDE + 1 && most < logs.count; step++) {
                 int wide = step % 2 == 0 ? own - step / 2 : own + step / 2;
                 // All wides that never held anything back let the same course pass.
@@ -1455,7 +1455,9 @@ public final class SpoutSpring {
 
         private void gather(Sights sights) {
             count = 0;
-            Arrays.fill(seen, false);
+            for (int one = 0; one <= MOST_LENGTH; one++) {
+                seen[one] = false;
+            }
             for (int sight = 0; sight < sights.count; sight++) {
                 if (sights.isKnown(sight, known)) {
                     insert(sights.length[sight], sights.wait[sight]);
