@@ -576,7 +576,6 @@ public final class SpoutSpring {
         int kind = END;
         int place = 0;
         int number = 0;
-        int taken = 0;
         long name = 0;
         int fault = 0;
         int faultPlace = NONE;
@@ -623,8 +622,8 @@ public final class SpoutSpring {
             return true;
         }
 
-        /** A word and the number behind it, which is in taken then. */
-        boolean takeTold(int word, int least, int most) {
+        /** A word and the number behind it, which goes to its place in a row. */
+        boolean takeTold(int word, int least, int most, int[] row, int i) {
             if (kind != word) {
                 return refuse(MISPLACED);
             }
@@ -635,7 +634,9 @@ public final class SpoutSpring {
             if (number < least || number > most) {
                 return refuse(BAD_NUMBER);
             }
-            taken = number;
+            if (i >= 0 && i < row.length) {
+                row[i] = number;
+            }
             goNext();
             return true;
         }
@@ -743,19 +744,11 @@ public final class SpoutSpring {
         }
 
         private boolean readNumbers(Tokens tokens) {
-            return readNumber(tokens, DEPTH, 0, 60, depth)
-                && readNumber(tokens, HOLDS, 1, 99, holds)
-                && readNumber(tokens, WIDE, 0, MOST_WIDE, wide)
-                && readNumber(tokens, HOT, 0, 999, hot)
-                && readNumber(tokens, COLD, 0, 30, cold);
-        }
-
-        private boolean readNumber(Tokens tokens, int word, int least, int most, int[] row) {
-            if (!tokens.takeTold(word, least, most)) {
-                return false;
-            }
-            row[rooms] = tokens.taken;
-            return true;
+            return tokens.takeTold(DEPTH, 0, 60, depth, rooms)
+                && tokens.takeTold(HOLDS, 1, 99, holds, rooms)
+                && tokens.takeTold(WIDE, 0, MOST_WIDE, wide, rooms)
+                && tokens.takeTold(HOT, 0, 999, hot, rooms)
+                && tokens.takeTold(COLD, 0, 30, cold, rooms);
         }
 
         private boolean readUp(Tokens tokens) {
@@ -790,11 +783,7 @@ public final class SpoutSpring {
             if (!readJoined(tokens, joinOther, joinOne[joins])) {
                 return false;
             }
-            if (!tokens.takeTold(WIDE, 0, MOST_WIDE)) {
-                return false;
-            }
-            joinWide[joins] = tokens.taken;
-            if (!tokens.take(';')) {
+            if (!tokens.takeTold(WIDE, 0, MOST_WIDE, joinWide, joins) || !tokens.take(';')) {
                 return false;
             }
             joins++;

@@ -1,17 +1,5 @@
 /** Each promise by itself, with answers worked out by hand from the document. */
 public final class PromiseTest {
-    /** Spouts in the seconds 3, 6, 9 ..: 9 grains of the neck's 10. */
-    private static final String GEYSER = "neck n depth 0 holds 10 wide 9 hot 0 cold 5 up air; "
-        + "room c depth 10 holds 10 wide 5 hot 500 cold 10 up n;";
-    /** With CLOCK_LAWS and no warmth in the cold: throws what t has gathered, 8, in the seconds 4, 8, 12 .. */
-    private static final String CLOCK = "neck t depth 0 holds 10 wide 10 hot 0 cold 2 up air;"
-        + "room b depth 9 holds 1 wide 0 hot 100 cold 1 up t;";
-    private static final String CLOCK_LAWS = "boil 350; lift 30;";
-    /** Without warmth in the cold it throws 10 in every second. */
-    private static final String JET = "neck t depth 0 holds 10 wide 10 hot 0 cold 10 up air;"
-        + "room b depth 9 holds 5 wide 0 hot 999 cold 5 up t;";
-    private static final String POND = "room a depth 0 holds 20 wide 0 hot 0 cold 3 up air;";
-
     private PromiseTest() {
     }
 
@@ -44,14 +32,6 @@ public final class PromiseTest {
         gaps();
         abouts();
         Due.finish("PromiseTest");
-    }
-
-    private static SpoutSpring with(String spring, String laws, int cold) {
-        SpoutSpring x = new SpoutSpring();
-        Due.yes("spring stands: " + spring, Due.spring(x, 0, spring) >= 0);
-        Due.yes("laws stand: " + laws, Due.laws(x, laws) >= 0);
-        Due.yes("cold stands", x.cold(cold));
-        return x;
     }
 
     private static void newObject() {
@@ -90,17 +70,17 @@ public final class PromiseTest {
     private static void springs() {
         SpoutSpring x = new SpoutSpring();
         Due.same("empty text", x.spring(2), 0);
-        Due.write(x, GEYSER);
+        Due.write(x, Springs.GEYSER);
         Due.same("no shelf -1", x.spring(-1), -2);
         Due.same("no shelf 4", x.spring(4), -2);
-        Due.same("the tape stays", x.about(12), GEYSER.length());
+        Due.same("the tape stays", x.about(12), Springs.GEYSER.length());
         Due.same("spring", x.spring(3), 2);
         Due.same("the tape is empty", x.about(12), 0);
         Due.same("a fault", Due.spring(x, 3, "room"), -1);
         Due.same("the tape is empty at a fault", x.about(12), 0);
         Due.same("the spring stays", x.about(3), 2);
         Due.same("its seconds stay", x.plays(3, 9), 3);
-        Due.write(x, POND);
+        Due.write(x, Springs.POND);
         Due.same("refused", x.spring(9), -2);
         Due.same("the fault of the latest that was not -2", x.fault(0), 2);
         Due.same("its place", x.fault(1), 4);
@@ -112,7 +92,7 @@ public final class PromiseTest {
         Due.same("new seconds", x.plays(3, 9), 0);
         Due.same("blanks part or not", Due.spring(x, 0,
             "\n room\na depth0 holds1 \n wide0 hot0 cold0 up air;pool b depth3 holds2 wide1 hot0 cold0 up a ; "), 2);
-        Due.same("eight letters", Due.spring(x, 0, POND.replace(" a ", " abcdefgh ")), 1);
+        Due.same("eight letters", Due.spring(x, 0, Springs.POND.replace(" a ", " abcdefgh ")), 1);
         Due.same("empty again", Due.spring(x, 0, "  \n"), 0);
     }
 
@@ -123,10 +103,10 @@ public final class PromiseTest {
         Due.same("place in " + text, x.fault(1), place);
     }
 
-    /** The fault of POND with a part of it changed; it stands where the mark ^ stands in the new part. */
+    /** The fault of Springs.POND with a part of it changed; it stands where the mark ^ stands in the new part. */
     private static void pondFault(String part, String by, int what) {
-        String text = POND.replace(part, by);
-        Due.yes(part + " is in the pond", POND.contains(part));
+        String text = Springs.POND.replace(part, by);
+        Due.yes(part + " is in the pond", Springs.POND.contains(part));
         fault(text.replace("^", ""), what, text.indexOf('^'));
     }
 
@@ -174,13 +154,13 @@ public final class PromiseTest {
         pondFault("air;", "air; join a ^a wide 3;", 6);
         pondFault("air;", "air; join a ^up", 2);
         pondFault("air;", "air; join ^3", 2);
-        String two = POND + "room b depth 1 holds 1 wide 0 hot 0 cold 0 up a;";
+        String two = Springs.POND + "room b depth 1 holds 1 wide 0 hot 0 cold 0 up a;";
         fault(two + "join a b wide 31;", 4, two.length() + 14);
         fault(two + "join a b ;", 2, two.length() + 9);
         fault(two + "join a b wide 30", 2, two.length() + 16);
         fault(two.replace("depth 1", "depth 0"), 6, two.length() - 2);
         Due.same("a depth that is just not less", Due.spring(new SpoutSpring(), 0, two), 2);
-        String later = "room b depth 1 holds 1 wide 0 hot 0 cold 0 up a;" + POND;
+        String later = "room b depth 1 holds 1 wide 0 hot 0 cold 0 up a;" + Springs.POND;
         fault(later, 5, later.indexOf("a;"));
     }
 
@@ -277,7 +257,7 @@ public final class PromiseTest {
     }
 
     private static void worth(String e, int boil) {
-        SpoutSpring x = with(POND, "boil " + e + ";", 10);
+        SpoutSpring x = Springs.with(Springs.POND, "boil " + e + ";", 10);
         Due.same("boil " + e, x.room(0, 0, 0, 3), boil);
     }
 
@@ -318,7 +298,7 @@ public final class PromiseTest {
         worth("9999*9999*99/9999/9999", Math.max(1, 9999 * 9999 * 99 / 9999 / 9999));
         worth("9999*9999*50/9999/999", Math.max(1, 9999 * 9999 * 50 / 9999 / 999));
         // What there is, behind second 2 of the geyser: n has 10 of 100, c 10 of 1100.
-        SpoutSpring x = with(GEYSER, "boil depth*100+above;", 10);
+        SpoutSpring x = Springs.with(Springs.GEYSER, "boil depth*100+above;", 10);
         Due.same("depth and above", x.room(0, 2, 1, 3), 999);
         Due.laws(x, "boil above + 300;");
         Due.same("above", x.room(0, 2, 1, 3), 310);
@@ -332,7 +312,7 @@ public final class PromiseTest {
     }
 
     private static void coldAndHigh() {
-        SpoutSpring x = with(POND, "", 10);
+        SpoutSpring x = Springs.with(Springs.POND, "", 10);
         Due.no("cold -1", x.cold(-1));
         Due.no("cold 100", x.cold(100));
         Due.same("cold 10 stays", x.room(0, 1, 0, 1), 30);
@@ -340,7 +320,7 @@ public final class PromiseTest {
         Due.same("cold 0", x.room(0, 1, 0, 1), 0);
         Due.yes("cold 99", x.cold(99));
         Due.same("cold 99", x.room(0, 1, 0, 1), 297);
-        Due.spring(x, 0, GEYSER);
+        Due.spring(x, 0, Springs.GEYSER);
         x.cold(10);
         Due.no("high 0", x.high(0));
         Due.no("high 100", x.high(100));
@@ -354,7 +334,7 @@ public final class PromiseTest {
     }
 
     private static void fillAndCool() {
-        SpoutSpring x = with(POND, "cool water;", 10);
+        SpoutSpring x = Springs.with(Springs.POND, "cool water;", 10);
         Due.same("nothing ahead", x.room(0, 1, 0, 1), 30);
         Due.same("cool by what the step ahead left", x.room(0, 2, 0, 1), 57);
         Due.same("cool again", x.room(0, 3, 0, 1), 81);
@@ -365,12 +345,12 @@ public final class PromiseTest {
         Due.same("0 at least", x.room(0, 3, 0, 1), 0);
         Due.laws(x, "cool 0 - 5;");
         Due.same("not below 0", x.room(0, 3, 0, 1), 90);
-        Due.same("hot needs water", Due.spring(x, 0, POND.replace("hot 0 cold 3", "hot 50 cold 0")), 1);
+        Due.same("hot needs water", Due.spring(x, 0, Springs.POND.replace("hot 0 cold 3", "hot 50 cold 0")), 1);
         Due.same("no water, no hot", x.room(0, 5, 0, 1), 0);
         Due.same("no water, no warm", x.room(0, 5, 0, 2), 0);
-        x = with(POND.replace("hot 0", "hot 999"), "cool 1500; boil 999;", 0);
+        x = Springs.with(Springs.POND.replace("hot 0", "hot 999"), "cool 1500; boil 999;", 0);
         Due.same("999 at most", x.room(0, 2, 0, 1), 0);
-        x = with(POND.replace("hot 0", "hot 999").replace("cold 3", "cold 30"), "cool 1500; boil 999;", 10);
+        x = Springs.with(Springs.POND.replace("hot 0", "hot 999").replace("cold 3", "cold 30"), "cool 1500; boil 999;", 10);
         Due.same("999 at most, seen", x.room(0, 1, 0, 1), 200);
         Due.same("room of a shelf that is none", x.room(4, 1, 0, 0), -1);
         Due.same("room -1", x.room(0, 1, -1, 0), -1);
@@ -385,7 +365,7 @@ public final class PromiseTest {
 
     private static void joins() {
         String ponds = "room a depth 0 holds 20 wide 0 hot 5 cold 9 up air; room b depth 0 holds 5 wide 0 hot 0 cold 1 up air;";
-        SpoutSpring x = with(ponds + "join b a wide 30;", "", 10);
+        SpoutSpring x = Springs.with(ponds + "join b a wide 30;", "", 10);
         Due.same("from a", x.room(0, 1, 0, 0), 5);
         Due.same("its share is cut", x.room(0, 1, 0, 1), 53);
         Due.same("to b", x.room(0, 1, 1, 0), 5);
@@ -405,7 +385,7 @@ public final class PromiseTest {
     private static void throwing() {
         String text = "room t depth 0 holds 10 wide 3 hot 0 cold 4 up air; room m depth 5 holds 6 wide 30 hot 0 cold 6 up t; "
             + "room b depth 9 holds 5 wide 0 hot 999 cold 5 up m;";
-        SpoutSpring x = with(text, "", 20);
+        SpoutSpring x = Springs.with(text, "", 20);
         int[][] due = {{7, 140, 0, 0, 0, 299, 3, 3, 5}, {7, 140, 0, 0, 0, 568, 9, 12, 10}};
         for (int n = 1; n <= 2; n++) {
             for (int i = 0; i < 6; i++) {
@@ -416,32 +396,32 @@ public final class PromiseTest {
             Due.same("steam", x.book(0, n, 2), due[n - 1][8]);
         }
         Due.same("warmth without water is not warm", x.room(0, 1, 2, 2), 0);
-        x = with("room t depth 0 holds 10 wide 10 hot 999 cold 5 up air;"
+        x = Springs.with("room t depth 0 holds 10 wide 10 hot 999 cold 5 up air;"
             + "room b depth 9 holds 5 wide 0 hot 999 cold 5 up t;", "", 0);
         Due.same("b's warmth", x.room(0, 1, 1, 1), 224);
         Due.same("steam of what was thrown away is none", x.book(0, 1, 2), 5);
         Due.same("all of t was thrown", x.book(0, 1, 4), 5);
         Due.same("t has nothing", x.room(0, 1, 0, 1), 0);
-        x = with(GEYSER, "lift water - 8;", 10);
+        x = Springs.with(Springs.GEYSER, "lift water - 8;", 10);
         Due.same("lift by what there was", x.book(0, 3, 4), 9);
         Due.laws(x, "lift 0;");
         Due.same("nothing is thrown", x.book(0, 3, 4), 0);
         Due.same("steam goes all the same", x.book(0, 3, 2), 10);
-        x = with(JET, "lift 100; boil 1;", 0);
+        x = Springs.with(Springs.JET, "lift 100; boil 1;", 0);
         Due.same("lift is 30 at most", x.book(0, 1, 4), 10);
-        x = with("room b depth 9 holds 5 wide 9 hot 600 cold 5 up air;", "", 0);
+        x = Springs.with("room b depth 9 holds 5 wide 9 hot 600 cold 5 up air;", "", 0);
         Due.same("nobody above: nothing is thrown", x.book(0, 1, 4), 0);
         // WARMTH 600, BOIL 100: (600 - 500) / 50 = 2 grains, 150 of WARMTH each.
         Due.same("two grains of steam", x.room(0, 1, 0, 0), 3);
         Due.same("their warmth", x.room(0, 1, 0, 1), 300);
-        x = with("room b depth 9 holds 5 wide 9 hot 549 cold 5 up air;", "", 0);
+        x = Springs.with("room b depth 9 holds 5 wide 9 hot 549 cold 5 up air;", "", 0);
         Due.same("less than 50 beyond", x.book(0, 1, 2), 0);
-        x = with("room b depth 9 holds 5 wide 9 hot 550 cold 5 up air;", "", 0);
+        x = Springs.with("room b depth 9 holds 5 wide 9 hot 550 cold 5 up air;", "", 0);
         Due.same("just 50 beyond", x.book(0, 1, 2), 1);
     }
 
     private static void pools() {
-        SpoutSpring x = with("pool p depth 0 holds 9 wide 0 hot 1 cold 3 up air;", "", 10);
+        SpoutSpring x = Springs.with("pool p depth 0 holds 9 wide 0 hot 1 cold 3 up air;", "", 10);
         Due.same("not full", x.room(0, 2, 0, 0), 6);
         Due.same("all but half", x.room(0, 3, 0, 0), 4);
         Due.same("93 less 93 * 5 / 9", x.room(0, 3, 0, 1), 42);
@@ -455,7 +435,7 @@ public final class PromiseTest {
     }
 
     private static void books() {
-        SpoutSpring x = with(GEYSER, "", 10);
+        SpoutSpring x = Springs.with(Springs.GEYSER, "", 10);
         for (int n = 0; n <= 30; n++) {
             int sum = x.book(0, n, 1) + x.book(0, n, 2) + x.book(0, n, 3);
             Due.same("sum of second " + n, x.book(0, n, 0), sum);
@@ -475,7 +455,7 @@ public final class PromiseTest {
     }
 
     private static void plays() {
-        SpoutSpring x = with(JET, "", 0);
+        SpoutSpring x = Springs.with(Springs.JET, "", 0);
         Due.same("one long play", x.plays(0, 1000), 1);
         Due.same("its first second", x.play(0, 7, 0, 0), 1);
         Due.same("with what it has", x.play(0, 7, 0, 1), 7);
@@ -490,12 +470,12 @@ public final class PromiseTest {
         Due.same("no seconds", x.play(0, 0, 0, 0), -1);
         Due.same("1001 seconds", x.play(0, 1001, 0, 0), -1);
         Due.same("shelf -1", x.play(-1, 5, 0, 0), -1);
-        x = with(GEYSER, "", 10);
+        x = Springs.with(Springs.GEYSER, "", 10);
         Due.same("the third", x.play(0, 9, 2, 0), 9);
         Due.same("its wait", x.play(0, 9, 2, 3), 2);
         Due.same("the second one's wait", x.play(0, 9, 1, 3), 2);
         // It throws 6, 10, 10, 6, 10, 10, 6, 10, 10, 8.
-        x = with(JET.replace("hot 999", "hot 700"), "", 0);
+        x = Springs.with(Springs.JET.replace("hot 999", "hot 700"), "", 0);
         Due.same("all high", x.play(0, 10, 0, 1), 10);
         Due.same("greatest", x.play(0, 10, 0, 2), 10);
         x.high(10);
@@ -505,7 +485,7 @@ public final class PromiseTest {
         Due.same("behind the last second of the one ahead", x.play(0, 10, 1, 3), 1);
         Due.same("just begun", x.play(0, 5, 1, 1), 1);
         // Every second second: b's one grain boils away at each other one.
-        x = with(CLOCK.replace("hot 100", "hot 200").replace("cold 2", "cold 5"), CLOCK_LAWS, 0);
+        x = Springs.with(Springs.CLOCK.replace("hot 100", "hot 200").replace("cold 2", "cold 5"), Springs.CLOCK_LAWS, 0);
         Due.same("each other second", x.play(0, 1000, 199, 0), 400);
         Due.same("200 at most", x.plays(0, 1000), 200);
         Due.same("a 201st", x.play(0, 1000, 200, 0), -1);
@@ -619,7 +599,7 @@ public final class PromiseTest {
     }
 
     private static void logs() {
-        SpoutSpring x = with(GEYSER, "", 10);
+        SpoutSpring x = Springs.with(Springs.GEYSER, "", 10);
         Due.same("all fit without logs", x.fits(), 15);
         Due.same("from 0", x.log(0, 5, true), -1);
         Due.same("to 501", x.log(5, 501, true), -1);
@@ -644,13 +624,13 @@ public final class PromiseTest {
         Due.same("a 41st", x.log(1, 1, false), -1);
         Due.same("clear", x.clear(), 40);
         // A play that goes on in the log's seconds began ahead of them.
-        x = with(JET, "", 0);
+        x = Springs.with(Springs.JET, "", 0);
         x.log(2, 500, true);
         Due.same("it began ahead", x.fits(), 0);
     }
 
     private static void threads() {
-        SpoutSpring x = with("room a depth 0 holds 10 wide 0 hot 0 cold 1 up air;", "", 10);
+        SpoutSpring x = Springs.with("room a depth 0 holds 10 wide 0 hot 0 cold 1 up air;", "", 10);
         Due.spring(x, 1, "room a depth 0 holds 10 wide 0 hot 5 cold 1 up air;");
         Due.spring(x, 2, "room a depth 0 holds 1 wide 0 hot 5 cold 1 up air;");
         Due.same("the room", x.thread(7, 0), 0);
@@ -674,7 +654,7 @@ public final class PromiseTest {
         Due.same("of like ones the first room", x.thread(9, 0), 1);
         // Behind second s it is warm 10 + s; cool is asked by second s - 1, so these part in second 200, and in 201.
         String hearth = "room a depth 0 holds 1 wide 0 hot 1 cold 1 up air;";
-        x = with(hearth, "boil 999; cool (warm > 208) * depth;", 10);
+        x = Springs.with(hearth, "boil 999; cool (warm > 208) * depth;", 10);
         Due.spring(x, 1, hearth.replace("depth 0", "depth 1"));
         Due.same("the last second", x.thread(3, 1), 200);
         Due.laws(x, "boil 999; cool (warm > 209) * depth;");
@@ -682,7 +662,7 @@ public final class PromiseTest {
     }
 
     private static void shooks() {
-        SpoutSpring x = with(CLOCK.replace("wide 10", "wide 3"), CLOCK_LAWS, 0);
+        SpoutSpring x = Springs.with(Springs.CLOCK.replace("wide 10", "wide 3"), Springs.CLOCK_LAWS, 0);
         Due.same("no logs", x.shook(0, 0), -1);
         x.log(4, 4, true);
         Due.same("the room", x.shook(0, 0), 0);
@@ -707,7 +687,7 @@ public final class PromiseTest {
         Due.same("what -1", x.shook(0, -1), -1);
         Due.same("shelf 4", x.shook(4, 0), -1);
         Due.same("empty shelf", x.shook(1, 0), -1);
-        Due.spring(x, 0, CLOCK);
+        Due.spring(x, 0, Springs.CLOCK);
         x.clear();
         x.log(4, 4, false);
         Due.same("less wide", x.shook(0, 1), 4);
@@ -719,41 +699,41 @@ public final class PromiseTest {
         Due.same("it plays in second 3", x.shook(0, 1), -1);
         x.cold(0);
         Due.same("cold again", x.shook(0, 1), 4);
-        Due.spring(x, 0, CLOCK.replace("wide 10", "wide 9"));
+        Due.spring(x, 0, Springs.CLOCK.replace("wide 10", "wide 9"));
         Due.same("another spring", x.shook(0, 2), 1);
-        Due.spring(x, 0, POND);
+        Due.spring(x, 0, Springs.POND);
         Due.same("a spring without rooms above", x.shook(0, 2), -1);
         // Thrown 1 a second by wide 1: high 1 is out of reach by wide 0 alone.
-        x = with(CLOCK, CLOCK_LAWS, 0);
+        x = Springs.with(Springs.CLOCK, Springs.CLOCK_LAWS, 0);
         x.high(1);
         x.log(4, 4, false);
         Due.same("wide 0", x.shook(0, 1), 0);
-        x = with("neck t depth 0 holds 99 wide 3 hot 0 cold 30 up air; room b depth 9 holds 1 wide 0 hot 100 cold 1 up t;",
-            CLOCK_LAWS, 0);
+        x = Springs.with("neck t depth 0 holds 99 wide 3 hot 0 cold 30 up air; room b depth 9 holds 1 wide 0 hot 100 cold 1 up t;",
+            Springs.CLOCK_LAWS, 0);
         x.high(30);
         x.log(4, 4, true);
         Due.same("wide 30", x.shook(0, 1), 30);
         // By wide 4 it never throws 5; by 8 it plays in other seconds; by 5 and 7 as by its own.
         String tie = "room t depth 0 holds 12 wide 6 hot 0 cold 2 up air; room b depth 9 holds 8 wide 0 hot 200 cold 2 up t;";
         for (int wide = 4; wide <= 8; wide++) {
-            x = with(tie.replace("wide 6", "wide " + wide), "", 10);
+            x = Springs.with(tie.replace("wide 6", "wide " + wide), "", 10);
             x.log(11, 11, false);
             Due.same("wide " + wide + " fits", x.fits() & 1, wide == 4 || wide == 8 ? 1 : 0);
         }
-        x = with(tie, "", 10);
+        x = Springs.with(tie, "", 10);
         x.log(11, 11, false);
         Due.same("of two as near the lesser", x.shook(0, 1), 4);
         x.clear();
         Due.same("no logs any more", x.shook(0, 1), -1);
-        x = with(CLOCK.replace("wide 10", "wide 5"), CLOCK_LAWS, 0);
+        x = Springs.with(Springs.CLOCK.replace("wide 10", "wide 5"), Springs.CLOCK_LAWS, 0);
         x.log(4, 4, false);
         Due.same("just less wide", x.shook(0, 1), 4);
         x.high(6);
         x.clear();
         x.log(4, 4, true);
         Due.same("just wider", x.shook(0, 1), 6);
-        x = with("neck t depth 0 holds 99 wide 0 hot 0 cold 30 up air; room b depth 9 holds 1 wide 0 hot 100 cold 1 up t;",
-            CLOCK_LAWS, 0);
+        x = Springs.with("neck t depth 0 holds 99 wide 0 hot 0 cold 30 up air; room b depth 9 holds 1 wide 0 hot 100 cold 1 up t;",
+            Springs.CLOCK_LAWS, 0);
         x.high(30);
         x.log(4, 4, true);
         Due.same("from 0 to 30", x.shook(0, 1), 30);
@@ -764,8 +744,8 @@ public final class PromiseTest {
         x.log(4, 4, false);
         Due.same("from 30 to 0", x.shook(0, 1), 0);
         // Both rooms above hold back; of like ones the first.
-        x = with("room t depth 0 holds 10 wide 10 hot 0 cold 0 up air; room m depth 1 holds 10 wide 10 hot 0 cold 2 up t;"
-            + "room b depth 9 holds 1 wide 0 hot 100 cold 1 up m;", CLOCK_LAWS, 0);
+        x = Springs.with("room t depth 0 holds 10 wide 10 hot 0 cold 0 up air; room m depth 1 holds 10 wide 10 hot 0 cold 2 up t;"
+            + "room b depth 9 holds 1 wide 0 hot 100 cold 1 up m;", Springs.CLOCK_LAWS, 0);
         Due.same("through both", x.play(0, 4, 0, 2), 8);
         x.log(4, 4, false);
         Due.same("the first room", x.shook(0, 0), 0);
@@ -773,7 +753,8 @@ public final class PromiseTest {
     }
 
     private static void stolen() {
-        SpoutSpring x = with(CLOCK + "room c depth 0 holds 99 wide 0 hot 0 cold 0 up air; join t c wide 30;", CLOCK_LAWS, 0);
+        SpoutSpring x = Springs.with(Springs.CLOCK + "room c depth 0 holds 99 wide 0 hot 0 cold 0 up air; join t c wide 30;",
+            Springs.CLOCK_LAWS, 0);
         Due.same("stolen", x.stolen(0, 4), 1);
         Due.same("not yet", x.stolen(0, 3), 0);
         Due.same("none with it", x.plays(0, 4), 0);
@@ -783,28 +764,28 @@ public final class PromiseTest {
         Due.same("shelf 4", x.stolen(4, 5), -1000);
         Due.same("shelf -1", x.stolen(-1, 5), -1000);
         // The other way round: c gives to t.
-        x = with(CLOCK.replace("cold 2", "cold 0") + "room c depth 0 holds 99 wide 0 hot 0 cold 9 up air; join t c wide 30;",
-            CLOCK_LAWS, 0);
+        x = Springs.with(Springs.CLOCK.replace("cold 2", "cold 0")
+            + "room c depth 0 holds 99 wide 0 hot 0 cold 9 up air; join t c wide 30;", Springs.CLOCK_LAWS, 0);
         Due.same("given", x.stolen(0, 4), -1);
     }
 
     private static void years() {
-        SpoutSpring x = with(GEYSER, "", 10);
+        SpoutSpring x = Springs.with(Springs.GEYSER, "", 10);
         Due.same("nine less one a year", x.years(0, 9), 6);
         Due.same("no seconds", x.years(0, 0), -1);
         Due.same("101 seconds", x.years(0, 101), -1);
         Due.same("shelf 4", x.years(4, 5), -1);
         Due.same("empty", x.years(1, 100), 1);
         x.high(1);
-        Due.spring(x, 0, GEYSER.replace("wide 9", "wide 19"));
+        Due.spring(x, 0, Springs.GEYSER.replace("wide 9", "wide 19"));
         Due.same("the twentieth", x.years(0, 9), 20);
-        Due.spring(x, 0, GEYSER.replace("wide 9", "wide 20"));
+        Due.spring(x, 0, Springs.GEYSER.replace("wide 9", "wide 20"));
         Due.same("not in twenty", x.years(0, 9), -1);
-        Due.spring(x, 0, GEYSER.replace("neck", "room"));
+        Due.spring(x, 0, Springs.GEYSER.replace("neck", "room"));
         Due.same("no neck", x.years(0, 9), -1);
-        x = with(JET, "", 0);
+        x = Springs.with(Springs.JET, "", 0);
         Due.same("a play that goes on does not begin", x.years(0, 5), 2);
-        x = with(GEYSER, "", 10);
+        x = Springs.with(Springs.GEYSER, "", 10);
         Due.same("no play in the first two seconds", x.years(0, 2), 1);
         Due.same("one second", x.years(0, 1), 1);
         Due.same("three seconds: one play a year", x.years(0, 3), 6);
@@ -813,7 +794,7 @@ public final class PromiseTest {
     }
 
     private static void led() {
-        SpoutSpring x = with(CLOCK, CLOCK_LAWS, 0);
+        SpoutSpring x = Springs.with(Springs.CLOCK, Springs.CLOCK_LAWS, 0);
         Due.same("one a second", x.led(0, 0, 1, 4), 1);
         Due.same("for two plays", x.led(0, 0, 2, 8), 1);
         Due.same("not even without", x.led(0, 0, 2, 7), -1);
@@ -833,17 +814,17 @@ public final class PromiseTest {
         Due.same("shelf 4", x.led(4, 0, 1, 4), -1);
         Due.same("no seconds", x.led(0, 0, 1, 0), -1);
         Due.same("1001 seconds", x.led(0, 0, 1, 1001), -1);
-        x = with(JET, "", 0);
+        x = Springs.with(Springs.JET, "", 0);
         Due.same("all of it", x.led(0, 0, 1, 5), 30);
         Due.same("what it has at a second's end", x.led(0, 1, 1, 5), 30);
         // Half of b's water takes half of its warmth, which never comes to 2 * 95 + 50 then.
-        x = with(CLOCK.replace("holds 1 ", "holds 2 ").replace("cold 1 ", "cold 2 "), "boil 95; lift 30;", 0);
+        x = Springs.with(Springs.CLOCK.replace("holds 1 ", "holds 2 ").replace("cold 1 ", "cold 2 "), "boil 95; lift 30;", 0);
         Due.same("it plays without", x.play(0, 10, 0, 0), 3);
         Due.same("with their share", x.led(0, 1, 1, 10), 0);
     }
 
     private static void rings() {
-        SpoutSpring x = with(CLOCK, CLOCK_LAWS, 0);
+        SpoutSpring x = Springs.with(Springs.CLOCK, Springs.CLOCK_LAWS, 0);
         Due.same("from all empty", x.ring(0, 4, 0), 0);
         Due.same("each four seconds", x.ring(0, 4, 1), 4);
         Due.same("the same later", x.ring(0, 1000, 1), 4);
@@ -852,16 +833,16 @@ public final class PromiseTest {
         Due.same("what -1", x.ring(0, 9, -1), -1);
         Due.same("1001 seconds", x.ring(0, 1001, 0), -1);
         Due.same("shelf 4", x.ring(4, 9, 0), -1);
-        x = with(POND, "", 10);
+        x = Springs.with(Springs.POND, "", 10);
         Due.same("full from second 7 on", x.ring(0, 8, 0), 7);
         Due.same("and stays so", x.ring(0, 8, 1), 1);
         Due.same("second 8 is needed", x.ring(0, 7, 1), -1);
-        Due.spring(x, 0, POND.replace("hot 0", "hot 1"));
+        Due.spring(x, 0, Springs.POND.replace("hot 0", "hot 1"));
         Due.same("ever warmer", x.ring(0, 500, 1), -1);
     }
 
     private static void parts() {
-        SpoutSpring x = with(CLOCK, CLOCK_LAWS, 0);
+        SpoutSpring x = Springs.with(Springs.CLOCK, Springs.CLOCK_LAWS, 0);
         Due.same("one second sooner", x.parts(0, 1, 100, 8), 1);
         Due.same("not enough", x.parts(0, 1, 99, 8), -1);
         Due.same("a play more", x.parts(0, 1, 100, 3), 1);
@@ -869,9 +850,9 @@ public final class PromiseTest {
         Due.same("the least warmth", x.parts(0, 1, 1, 8), -1);
         Due.laws(x, "boil 351; lift 30;");
         Due.same("the least warmth is enough", x.parts(0, 1, 1, 8), 1);
-        Due.laws(x, CLOCK_LAWS);
+        Due.laws(x, Springs.CLOCK_LAWS);
         Due.same("one second", x.parts(0, 1, 999, 1), -1);
-        Due.spring(x, 1, CLOCK.replace("hot 100", "hot 135"));
+        Due.spring(x, 1, Springs.CLOCK.replace("hot 100", "hot 135"));
         Due.same("a shelf that plays in second 3", x.play(1, 3, 0, 0), 3);
         Due.same("alike but in number", x.parts(0, 1, 100, 3), 1);
         Due.same("neither plays yet", x.parts(0, 1, 100, 2), -1);
@@ -881,10 +862,10 @@ public final class PromiseTest {
         Due.same("no seconds", x.parts(0, 1, 5, 0), -1);
         Due.same("1001 seconds", x.parts(0, 1, 5, 1001), -1);
         Due.same("shelf 4", x.parts(4, 1, 5, 8), -1);
-        x = with(GEYSER, "", 10);
+        x = Springs.with(Springs.GEYSER, "", 10);
         Due.same("the second play parts", x.parts(0, 1, 60, 10), 2);
         Due.same("not in five seconds", x.parts(0, 1, 60, 4), -1);
-        x = with(JET, "", 0);
+        x = Springs.with(Springs.JET, "", 0);
         Due.same("alike as they began", x.parts(0, 1, 999, 50), -1);
     }
 
@@ -915,8 +896,8 @@ public final class PromiseTest {
 
     private static void abouts() {
         SpoutSpring x = new SpoutSpring();
-        Due.spring(x, 1, GEYSER);
-        Due.spring(x, 2, GEYSER + "join n c wide 1;");
+        Due.spring(x, 1, Springs.GEYSER);
+        Due.spring(x, 2, Springs.GEYSER + "join n c wide 1;");
         Due.laws(x, "boil 100;");
         x.sight(1, 1);
         x.untell(0);
